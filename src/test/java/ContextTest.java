@@ -8,6 +8,7 @@ final class ContextTest {
     mostContexts();
     unreachable();
     callsOfUnreachableFunctions();
+    firstQuestion();
     wrongArguments();
     Due.finish();
   }
@@ -94,6 +95,21 @@ final class ContextTest {
     PointerAnalyzer analyzer = Make.with(2, "a=f1(b)", "", "a=f1(b);a=f0(b)");
     sameContexts(analyzer, 0, new int[][] {{}});
     sameContexts(analyzer, 1, new int[][] {{0}});
+  }
+
+  /** Each question must be answered also when it is the first one. */
+  private static void firstQuestion() {
+    String[] bodies = {"a=f1(b);a=f1(b)", "a=f2(b)", ""};
+    Due.same("contextCount", Make.with(1, bodies).contextCount(1), 2);
+    Due.same("contextLength", Make.with(1, bodies).contextLength(1, 1), 1);
+    Due.same("contextCall", Make.with(1, bodies).contextCall(1, 1, 0), 1);
+    Due.same("isReachable", Make.with(1, bodies).isReachable(2), true);
+    Due.same("pointsToIn", Make.with(1, bodies).pointsToIn(Make.p(1), 1), 0);
+    PointerAnalyzer other = Make.with(1, bodies);
+    Due.noIndex("the next context is another function's", () -> other.contextCall(1, 2, 0));
+    Due.noIndex("the context before, too", () -> other.contextCall(2, -1, 0));
+    Due.noIndex("the next one's length", () -> other.contextLength(1, 2));
+    Due.noIndex("the next one's targets", () -> other.pointsToIn(Make.p(1), 2));
   }
 
   private static void wrongArguments() {

@@ -18,6 +18,8 @@ final class EffectTest {
     PointerAnalyzer contexts = Make.with(1, "a=&c;b=&d;x=f1(a);x=f1(b)", "*p=p");
     Due.same("in all contexts", contexts.modifies(1), Make.set(Make.C, Make.D));
     Due.same("by the caller", contexts.modifies(0), Make.set(Make.C, Make.D));
+    Due.same("by the first statement", Make.with("*a=b;a=&c").modifies(0), Make.set(Make.C));
+    Due.same("by the last statement", Make.with("", "", "", "*a=b").modifies(3), 0);
     Due.same("not by copies", Make.with("a=&b;a=b;b=*a").modifies(0), 0);
   }
 

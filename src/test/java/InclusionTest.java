@@ -16,6 +16,7 @@ final class InclusionTest {
     reach();
     escapingSites();
     answersFollowChanges();
+    firstQuestion();
     wrongArguments();
     Due.finish();
   }
@@ -213,6 +214,23 @@ final class InclusionTest {
     Due.same("after restore", analyzer.pointsTo(Make.A), 2);
     analyzer.run();
     Due.same("after run", analyzer.pointsTo(Make.A), 2);
+  }
+
+  /** Each question must be answered also when it is the first one. */
+  private static void firstQuestion() {
+    String[] bodies = {"x=new;a=&b;*x=a;c=x;d=f0(a)"};
+    Due.same("pointsTo", Make.with(1, bodies).pointsTo(Make.A), Make.set(Make.B));
+    Due.same("pointsToIn", Make.with(1, bodies).pointsToIn(Make.p(0), 1), Make.set(Make.B));
+    Due.same("p of 0 in the empty context", Make.with(1, bodies).pointsToIn(Make.p(0), 0), 0);
+    Due.same("fieldPointsTo", Make.with(1, bodies).fieldPointsTo(0, 0), Make.set(Make.B));
+    // a, c, x twice, p in the second context, and the field
+    Due.same("factCount", Make.with(1, bodies).factCount(), 6);
+    Due.same("mayAlias", Make.with(1, bodies).mayAlias(Make.A, Make.p(0)), true);
+    Due.same("reach", Make.with(1, bodies).reach(Make.C), Make.set(Make.field(0, 0), Make.B));
+    Due.same("escapingSites", Make.with(1, bodies).escapingSites(), 1);
+    Due.same("modifies", Make.with(1, bodies).modifies(0), Make.set(Make.field(0, 0)));
+    Due.exact("averageTargets", Make.with(1, bodies).averageTargets(), 1.0f);
+    Due.exact("precision", Make.with(1, bodies).precision(), 4.0 / 8.0);
   }
 
   private static void wrongArguments() {

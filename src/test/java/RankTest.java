@@ -9,6 +9,7 @@ final class RankTest {
     loadsAndStores();
     calls();
     whateverTheLimit();
+    firstQuestion();
     fieldsCountAsRounds();
     roundCount();
     answersFollowChanges();
@@ -88,6 +89,16 @@ final class RankTest {
       Due.same("by the limit", analyzer.pointsTo(Make.C),
           limit == 0 ? Make.set(Make.A, Make.B) : Make.set(Make.A));
     }
+  }
+
+  /** Each question must be answered with the limit 0 also when it is the first one. */
+  private static void firstQuestion() {
+    String[] bodies = {"x=&a;y=&b;c=f1(x);d=f1(y)", "r=p"};
+    Due.same("rank", Make.with(1, bodies).rank(Make.C, Make.B), 4);
+    Due.same("reason", Make.with(1, bodies).reason(Make.C, Make.B), 2);
+    String[] longer = {"x=&a;c=f1(x);d=f1(c);c=d", "r=p"};
+    Due.same("roundCount", Make.with(0, longer).roundCount(), 4);
+    Due.same("roundCount", Make.with(2, longer).roundCount(), 4);
   }
 
   private static void fieldsCountAsRounds() {

@@ -86,6 +86,8 @@ final class UnificationTest {
     Due.same("a site with a variable", Make.with("a=new;a=&b").unifiedClasses(), 20);
     Due.same("pointees do not count", Make.with("a=b;c=d").unifiedClasses(), 20);
     Due.same("two variables", Make.with("a=&b;a=&c").unifiedClasses(), 19);
+    Due.same("with the first variable", Make.with("b=&a;b=&c").unifiedClasses(), 19);
+    Due.same("with the last variable", Make.with("", "", "", "x=&a;x=&y").unifiedClasses(), 19);
     Due.same("a site apart", Make.with("a=new;b=new;x=&y;x=&p").unifiedClasses(), 21);
   }
 

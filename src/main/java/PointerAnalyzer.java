@@ -501,6 +501,7 @@ public final class PointerAnalyzer {
       calls = 0;
     }
 
+    /** Always answers true, so that a reader can end with it. */
     boolean add(int kind, int left, int right, int number) {
       Rows.put(statements, size, Statement.pack(kind, left, right, number));
       size++;

@@ -1,4 +1,5 @@
 import java.util.List;
+import java.util.NoSuchElementException;
 
 /** Counts the answers that are looked at, and prints those that are not as due. */
 final class Due {
@@ -8,8 +9,18 @@ final class Due {
 
   private static int looked = 0;
   private static int wrong = 0;
+  private static String place = "";
 
   private Due() {
+  }
+
+  /** What is looked at from now on belongs there; a wrong answer is told with it. */
+  static void at(String where) {
+    place = where;
+  }
+
+  static int looked() {
+    return looked;
   }
 
   static void same(String what, long answer, long due) {
@@ -55,6 +66,22 @@ final class Due {
     thrown(what, IndexOutOfBoundsException.class, call);
   }
 
+  static void noArgument(String what, Call call) {
+    thrown(what, IllegalArgumentException.class, call);
+  }
+
+  static void noState(String what, Call call) {
+    thrown(what, IllegalStateException.class, call);
+  }
+
+  static void noElement(String what, Call call) {
+    thrown(what, NoSuchElementException.class, call);
+  }
+
+  static void noQuotient(String what, Call call) {
+    thrown(what, ArithmeticException.class, call);
+  }
+
   static void none(String what, List<String> found) {
     looked++;
     if (!found.isEmpty()) {
@@ -65,7 +92,7 @@ final class Due {
   private static void tell(String line) {
     wrong++;
     if (wrong <= 50) {
-      System.out.println("  " + line);
+      System.out.println("  " + place + line);
     }
   }
 

@@ -62,6 +62,22 @@ final class Make {
     return set;
   }
 
+  /** Numbers that are no index of a row of this size, among them those that are one in few bits. */
+  static int[] outside(int size) {
+    return new int[] {-1, size, size + 1, -size - 1, 64, 256, 65536, 1 << 30, Integer.MIN_VALUE,
+        Integer.MAX_VALUE};
+  }
+
+  /**
+   * Bodies of which the statements in last are executed as number 190, 191, .. of a run, or later
+   * by so many.
+   */
+  static PointerAnalyzer fromStatement190(int later, String last, String called) {
+    // The tree of calls of f1 has 31 activations with 6 statements, so that f3 begins after 188.
+    return with("x=f1(x);x=f3(x);" + last, "x=f1(x);x=f1(x);x=x;x=x;x=x;x=x", called,
+        times("y=y", later + 1));
+  }
+
   static String times(String part, int count) {
     StringBuilder text = new StringBuilder(part);
     for (int index = 1; index < count; index++) {

@@ -173,9 +173,7 @@ final class RunTest {
 
   /** A run whose call "c=f2(a)", with a pointing to b, is its statement with this number. */
   private static PointerAnalyzer callAt(int number, String called) {
-    // The tree of calls of f1 has 31 activations with 6 statements, so that f3 begins after 188.
-    PointerAnalyzer analyzer = Make.with("x=f1(x);x=f3(x);a=&b;c=f2(a)",
-        "x=f1(x);x=f1(x);x=x;x=x;x=x;x=x", called, Make.times("y=y", number - 190));
+    PointerAnalyzer analyzer = Make.fromStatement190(number - 191, "a=&b;c=f2(a)", called);
     analyzer.run();
     return analyzer;
   }

@@ -669,7 +669,8 @@ public final class PointerAnalyzer {
     }
 
     private int current() {
-      return position < length && position < MOST ? characters[position] : -1;
+      boolean isInText = position >= 0 && position < length && position < characters.length;
+      return isInText ? characters[position] : -1;
     }
   }
 

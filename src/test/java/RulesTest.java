@@ -46,11 +46,12 @@ final class RulesTest {
     return found;
   }
 
-  /** Methods stay short and take few parameters; a row is indexed only where its length is known. */
+  /** Methods stay short and take few parameters; an index is looked at from both sides. */
   private static void methods(String code) {
     String head = "(?m)^ {2,4}(?:public |private |static )*[\\w\\[\\]]+ (\\w+)\\(([^)]*)\\)[^;{]*\\{$";
     Matcher matcher = Pattern.compile(head).matcher(code);
     int methods = 0;
+    int indices = 0;
     while (matcher.find()) {
       methods++;
       String indent = matcher.group().startsWith("    ") ? "    }" : "  }";
@@ -59,10 +60,26 @@ final class RulesTest {
       int lines = body.split("\n").length;
       Due.same("length of " + matcher.group(1), lines <= 60, true);
       Due.same("parameters of " + matcher.group(1), matcher.group(2).split(",").length <= 7, true);
-      if (!body.contains(".length") && !matcher.group(1).equals("current")) {
-        Due.none("rows indexed without a look in " + matcher.group(1), all("\\w\\[\\w", body));
-      }
+      indices += indices(matcher.group(1), body);
     }
     Due.same("methods found", methods > 100, true);
+    Due.same("indices found", indices >= 10, true);
+  }
+
+  /** An index either counts from 0 or is tested to be 0 at least; and it is tested to be in its row. */
+  private static int indices(String method, String body) {
+    int found = 0;
+    Matcher matcher = Pattern.compile("(\\w+)\\[([^\\]]*)\\]").matcher(body);
+    while (matcher.find()) {
+      String index = matcher.group(2);
+      String place = method + ", " + matcher.group();
+      Due.same(place + ": the index is a name", index.matches("[a-z]\\w*"), true);
+      Due.same(place + ": the index is looked at from below",
+          body.contains(index + " >= 0") || body.contains("int " + index + " = 0;"), true);
+      Due.same(place + ": the index is looked at from above",
+          body.contains(index + " < " + matcher.group(1) + ".length"), true);
+      found++;
+    }
+    return found;
   }
 }
